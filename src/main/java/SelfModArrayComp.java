@@ -294,11 +294,8 @@ public final class SelfModArrayComp {
 
     private long weighMainPiece() {
         countPasses();
-        for (int piece = 0; piece < PIECES; piece++) {
-            weights[piece] = 0;
-        }
-        // No way of calls is longer than the number of pieces, so in the last turn every weight rests
-        // on weights that are right already.
+        // Each turn makes right the pieces whose calls all lead to right ones, whatever stood there before,
+        // and no way of calls is longer than the number of pieces.
         for (int turn = 0; turn < PIECES; turn++) {
             for (int piece = 0; piece < PIECES; piece++) {
                 weights[piece] = weighPiece(piece);

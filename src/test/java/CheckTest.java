@@ -23,6 +23,7 @@ public final class CheckTest {
         tooLong();
         tooLongByCalls();
         theFirstFaultCounts();
+        restsOnThePresentProgram();
         changesNothing();
         Due.end();
     }
@@ -94,6 +95,9 @@ public final class CheckTest {
             Due.check(calls(s, t) + calls(t, u) + calls(u, w) + "BODY " + w, OK);
             Due.check(calls(s, w) + calls(w, u) + calls(u, t) + "BODY " + t, OK);
             Due.check(calls(s, t) + calls(t, u) + calls(u, w) + calls(w, t), RECURSIVE);
+            Due.check(calls(s, s) + "CALL " + t + "; BODY " + t, RECURSIVE);
+            Due.check("BODY " + s + ";" + calls(t, s) + "CALL " + u + ";" + calls(u, t), RECURSIVE);
+            Due.check("BODY " + s + ";" + calls(t, u) + "CALL " + s + ";" + calls(u, t), RECURSIVE);
         }
         Due.check("CALL 0; BODY 0; IFPOS 7; CALL 0; END", RECURSIVE);
         Due.check("SET 0 0; IFPOS 0; CALL 2; END; BODY 2; PRINT 0; CALL 2", RECURSIVE);
@@ -175,6 +179,25 @@ public final class CheckTest {
                 Due.check(faults[i] + faults[j], answers[i]);
                 Due.check(faults[j] + faults[i], answers[i]);
             }
+        }
+    }
+
+    private static void restsOnThePresentProgram() {
+        for (int s = 0; s < 4; s++) {
+            SelfModArrayComp x = Due.program(calls(s, s));
+            Due.is("check() with a CALL in its own piece", x.check(), RECURSIVE);
+            x.retract();
+            Due.is("check() without the CALL", x.check(), OK);
+            Due.feed(x, "BODY " + s);
+            Due.is("check() with a second BODY", x.check(), TWICE);
+            x.retract();
+            x.retract();
+            Due.feed(x, "CALL " + s);
+            Due.is("check() without any BODY", x.check(), MISSING);
+            Due.feed(x, "BODY " + s + ";" + LONG);
+            Due.is("check() with a heavy BODY", x.check(), TOO_LONG);
+            x.retract();
+            Due.is("check() without its last END", x.check(), MALFORMED);
         }
     }
 
