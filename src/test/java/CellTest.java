@@ -19,9 +19,7 @@ public final class CellTest {
         Due.hasCells("after a run", x, 0, 1, 2, 3, 4, 5, 6, 7, 8);
         Due.hasCells("after a run", x, 1, 2, 4, 6, 8, 10, 12, 14, 16);
         Due.hasCells("after a run", x, 2, 4, 8, 12, 16, 20, 24, 28, 32);
-        while (x.retract() > 0) {
-            continue;
-        }
+        Due.retractTo(x, 0);
         x.run();
         for (int array = 0; array < 3; array++) {
             Due.hasCells("after a run of no statements", x, array, 0, 0, 0, 0, 0, 0, 0, 0);

@@ -59,6 +59,16 @@ final class Due {
         return java.util.Arrays.asList(KINDS).indexOf(name);
     }
 
+    /** Takes statements away until so many are left, with a bound: a retract that takes none fails and does not hang. */
+    static void retractTo(SelfModArrayComp x, int left) {
+        int now = x.retract();
+        for (int i = 0; i < 48 && now > left; i++) {
+            x.check();
+            now = x.retract();
+        }
+        is("retract() down to " + left, now, left);
+    }
+
     static String times(int n, String text) {
         return text.repeat(n);
     }

@@ -281,9 +281,7 @@ public final class PromiseEdgesTest {
             Due.feed(x, FAULTS[i]);
             Due.is("check() with " + FAULTS[i], x.check(), FAULT_ANSWERS[i]);
             Due.is("check() with " + FAULTS[i] + ", again", x.check(), FAULT_ANSWERS[i]);
-            while (x.retract() > 1) {
-                x.check();
-            }
+            Due.retractTo(x, 1);
             Due.is("check() without " + FAULTS[i], x.check(), SelfModArrayComp.OK);
         }
         // A fault that is taken away again leaves no trace, whatever the subroutine.
@@ -317,9 +315,11 @@ public final class PromiseEdgesTest {
             Due.hasCells("with " + FAULTS[i], x, 1, 0, 0, 0, 0, 0, 0, 0, 0);
             Due.hasCells("with " + FAULTS[i], x, 2, 7, 0, 0, 0, 0, 0, 0, 0);
             Due.is("retract() with " + FAULTS[i], x.retract(), size - 1);
-            while (x.retract() > 6) {
+            for (int left = size - 2; left > 6; left--) {
+                Due.is("retract() without " + FAULTS[i], x.retract(), left);
                 x.run();
             }
+            Due.is("retract() of the last of " + FAULTS[i], x.retract(), 6);
             Due.printsNow(x, "the run after " + FAULTS[i], 8, 4);
         }
     }
@@ -337,9 +337,7 @@ public final class PromiseEdgesTest {
             Due.hasCells("after " + fill, x, array, 1, 1, 1, 1, 1, 1, 1, 1);
         }
         Due.hasVariables("after " + fill, x, 8, 1, 16, 24, 32, 40, 48, 56);
-        while (x.retract() > 0) {
-            continue;
-        }
+        Due.retractTo(x, 0);
         Due.printsNow(x, "no statements");
         for (int array = 0; array < 3; array++) {
             Due.hasCells("after no statements", x, array, 0, 0, 0, 0, 0, 0, 0, 0);
@@ -449,9 +447,7 @@ public final class PromiseEdgesTest {
         Due.is("a refused run", x.run(), SelfModArrayComp.MISSING);
         Due.is("output(0) after a refused run", x.output(0), 101);
         Due.is("output(47) after a refused run", x.output(47), 148);
-        while (x.retract() > 0) {
-            continue;
-        }
+        Due.retractTo(x, 0);
         Due.is("output(47) after retracts", x.output(47), 148);
         Due.feed(x, "PRINT 1; PRINT 0");
         Due.printsNow(x, "two values after fifty", 1, 100);

@@ -129,7 +129,8 @@ public final class WeightEdgesTest {
         weighs(7, String.join("", others));
     }
 
-    // "The statements before the first BODY are the MAIN piece", and a BODY itself is in no piece.
+    // "The statements before the first BODY are the MAIN piece; the statements after a BODY, up to the next BODY or the
+    // end of the program, are the piece of that subroutine.": a BODY itself is in no piece.
     private static void bodyIsInNoPiece() {
         weighs(0, "", "BODY 0; BODY 1; BODY 2;");
         weighs(0, "", "BODY 1; SET 0 1; BODY 0; LOOP 5; SET 0 1; END;");
